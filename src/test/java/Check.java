@@ -1,0 +1,57 @@
+/** Compares answers with those that are due, and ends the test with exit code 1 if one is not. */
+final class Check {
+    static final String RANGE = "throws.IndexOutOfBoundsException";
+    static final String ARGUMENT = "throws.IllegalArgumentException";
+    static final String STATE = "throws.IllegalStateException";
+
+    interface Call {
+        int answer();
+    }
+
+    private int wrong;
+
+    /** The answer of a call, or the name of what it throws, exactly that class. */
+    static String answer(Call call) {
+        try {
+            return Integer.toString(call.answer());
+        } catch (RuntimeException e) {
+            return "throws." + e.getClass().getSimpleName();
+        }
+    }
+
+    void due(String what, String want, String got) {
+        if (!want.equals(got)) {
+            wrong++;
+            System.out.println(what + " answered " + got + ", due is " + want);
+        }
+    }
+
+    void due(String what, int want, Call call) {
+        due(what, Integer.toString(want), answer(call));
+    }
+
+    /** The call throws this, and the object is as it was. */
+    void refuses(PieceTexts x, String what, String want, Call call) {
+        String before = State.of(x);
+        due(what, want, answer(call));
+        due("the state after " + what, before, State.of(x));
+    }
+
+    /** The call throws this, and as far as a few calls show it, the object is as it was. */
+    void refusesFull(PieceTexts x, String what, String want, Call call) {
+        String before = State.inShort(x);
+        due(what, want, answer(call));
+        due("the state after " + what, before, State.inShort(x));
+    }
+
+    void row(PieceTexts x, int t, String want) {
+        due("the row of text " + t, want, State.row(x, t));
+    }
+
+    void end() {
+        if (wrong != 0) {
+            System.out.println(wrong + " answers are not as due");
+            System.exit(1);
+        }
+    }
+}

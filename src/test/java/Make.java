@@ -1,0 +1,62 @@
+/** Objects to begin a test with. */
+final class Make {
+    private Make() {
+    }
+
+    /** The bytes of a text, the first one lowest, as write takes them. */
+    static long bytes(String s) {
+        long all = 0;
+        for (int i = s.length() - 1; i >= 0; i--) {
+            all = all << 8 | (s.charAt(i) & 255);
+        }
+        return all;
+    }
+
+    static PieceTexts written(String... parts) {
+        PieceTexts x = new PieceTexts();
+        for (String part : parts) {
+            x.write(bytes(part));
+        }
+        return x;
+    }
+
+    /** A buffer of abcdefgh, and text 0 made of all of it with tag 0. */
+    static PieceTexts letters() {
+        PieceTexts x = written("abcdefgh");
+        x.put(0, 0, 0, 8, 0);
+        return x;
+    }
+
+    /** A buffer of xyzw; text 0 has so many pieces (a power of 2) of one character, all x with tag 0. */
+    static PieceTexts single(int pieces) {
+        PieceTexts x = written("xyzw");
+        x.put(0, 0, 0, 1, 0);
+        grow(x, pieces);
+        return x;
+    }
+
+    /** A buffer of 64 bytes; text 0 has 2048 characters in 32 pieces of all of them. */
+    static PieceTexts halfFull() {
+        PieceTexts x = new PieceTexts();
+        for (int i = 0; i < 8; i++) {
+            x.write(bytes("abcdefgh"));
+        }
+        x.put(0, 0, 0, 64, 0);
+        grow(x, 2048);
+        return x;
+    }
+
+    /** The same, and text 1 is a copy of text 0: 4096 characters in all. */
+    static PieceTexts full() {
+        PieceTexts x = halfFull();
+        x.copy(0, 0, 2048, 1);
+        return x;
+    }
+
+    private static void grow(PieceTexts x, int length) {
+        for (int n = x.length(0); n < length; n = x.length(0)) {
+            x.copy(0, 0, n, 1);
+            x.paste(0, n, 1);
+        }
+    }
+}
