@@ -8,6 +8,14 @@ final class Check {
         int answer();
     }
 
+    interface Request {
+        int answer(PieceTexts x);
+    }
+
+    interface Maker {
+        PieceTexts make();
+    }
+
     private int wrong;
 
     /** The answer of a call, or the name of what it throws, exactly that class. */
@@ -30,14 +38,15 @@ final class Check {
         due(what, Integer.toString(want), answer(call));
     }
 
-    /** The call throws this, and the object is as it was. */
-    void refuses(PieceTexts x, String what, String want, Call call) {
+    /** On an object of its own, as one has 512 calls: the call throws this, and the object is as it was. */
+    void refuses(Maker maker, String what, String want, Request request) {
+        PieceTexts x = maker.make();
         String before = State.of(x);
-        due(what, want, answer(call));
+        due(what, want, answer(() -> request.answer(x)));
         due("the state after " + what, before, State.of(x));
     }
 
-    /** The call throws this, and as far as a few calls show it, the object is as it was. */
+    /** The call throws this, and as far as a few calls tell, the full object is as it was. */
     void refusesFull(PieceTexts x, String what, String want, Call call) {
         String before = State.inShort(x);
         due(what, want, answer(call));

@@ -27,6 +27,13 @@ final class Make {
         return x;
     }
 
+    /** The same, and text 1 is its first letter. */
+    static PieceTexts twoTexts() {
+        PieceTexts x = letters();
+        x.put(1, 0, 0, 1, 0);
+        return x;
+    }
+
     /** A buffer of xyzw; text 0 has so many pieces (a power of 2) of one character, all x with tag 0. */
     static PieceTexts single(int pieces) {
         PieceTexts x = written("xyzw");

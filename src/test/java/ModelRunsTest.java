@@ -15,6 +15,9 @@ public final class ModelRunsTest {
     private final int texts;
     private final int growth;
     private final boolean wild;
+    private boolean crowded;
+    private boolean failed;
+    private int calls;
     private long seed;
 
     /** texts: how many are used; growth: of eight changes, how many double a text; wild: wrong arguments too. */
@@ -33,17 +36,43 @@ public final class ModelRunsTest {
         for (int i = 600; i < 720; i++) {
             wrong += new ModelRunsTest(i, 2 + i % 3, 1 + i % 4, i % 2 == 0).run();
         }
+        for (int i = 720; i < 840; i++) {
+            wrong += new ModelRunsTest(i, 4, 0, i % 4 == 0).crowd().run();
+        }
         if (wrong != 0) {
             System.out.println(wrong + " runs are not as the model's");
             System.exit(1);
         }
     }
 
+    /** Brings the object as near to 1024 pieces as doubling and single characters do, and keeps changes small. */
+    private ModelRunsTest crowd() {
+        crowded = true;
+        writeSome();
+        writeSome();
+        for (int i = 0; i < 12; i++) {
+            putSome(0, place(0));
+        }
+        while (model.count(2) <= 340 && calls < 100) {
+            int n = model.length(0);
+            same("copy 0 0 " + n + " 1", () -> real.copy(0, 0, n, 1), () -> model.copy(0, 0, n, 1));
+            same("paste 0 0 1", () -> real.paste(0, 0, 1), () -> model.paste(0, 0, 1));
+        }
+        while (model.count(2) <= 1020 && calls < 200) {
+            int rest = Math.min(model.length(0), 1022 - model.count(2));
+            int n = below(rest + 1);
+            int u = 1 + below(2);
+            same("copy 0 0 " + n + " 3", () -> real.copy(0, 0, n, 3), () -> model.copy(0, 0, n, 3));
+            same("paste " + u + " 0 3", () -> real.paste(u, 0, 3), () -> model.paste(u, 0, 3));
+        }
+        return this;
+    }
+
     /** 1 if an answer was wrong, else 0. */
     private int run() {
-        for (int i = 0; i < CALLS; i++) {
+        for (int i = 0; calls + 2 <= CALLS; i++) {
             boolean good = i < 6 ? writeSome() : step();
-            if (!good) {
+            if (!good || failed) {
                 for (String line : told.subList(Math.max(0, told.size() - 20), told.size())) {
                     System.out.println(line);
                 }
@@ -65,7 +94,7 @@ public final class ModelRunsTest {
         int t = text();
         int at = place(t);
         int n = span(t, at);
-        int u = text();
+        int u = below(3) == 0 ? text() : emptyText();
         switch (kind) {
             case 0:
                 return below(4) == 0 ? writeSome() : putSome(t, at);
@@ -74,14 +103,16 @@ public final class ModelRunsTest {
                 return putSome(t, at);
             case 3:
                 return same("cut " + t + " " + at + " " + n + " " + u, () -> real.cut(t, at, n, u), () -> model.cut(t, at, n, u));
-            case 4:
-                return same("paste " + t + " " + at + " " + u, () -> real.paste(t, at, u), () -> model.paste(t, at, u));
+            case 4: {
+                int v = text();
+                return same("paste " + t + " " + at + " " + v, () -> real.paste(t, at, v), () -> model.paste(t, at, v));
+            }
             case 5:
                 return same("copy " + t + " " + at + " " + n + " " + u, () -> real.copy(t, at, n, u), () -> model.copy(t, at, n, u));
             case 6:
                 return tagSome(t, at, n);
             default:
-                return below(4) > 0 ? tagSome(t, at, n) : same("wipe " + u, () -> real.wipe(u), () -> model.wipe(u));
+                return below(4) > 0 ? tagSome(t, at, n) : wipeSome();
         }
     }
 
@@ -159,15 +190,33 @@ public final class ModelRunsTest {
                 () -> real.tag(t, at, n, mask, bits), () -> model.tag(t, at, n, mask, bits));
     }
 
+    private boolean wipeSome() {
+        int t = text();
+        if (crowded && model.length(t) > 20) {
+            return true;
+        }
+        return same("wipe " + t, () -> real.wipe(t), () -> model.wipe(t));
+    }
+
     private boolean same(String call, Check.Call ofReal, Check.Call ofModel) {
         String got = Check.answer(ofReal);
         String want = Check.answer(ofModel);
+        calls++;
         told.add(call + " answered " + got + ", due is " + want);
+        failed |= !want.equals(got);
         return want.equals(got);
     }
 
     private int text() {
         return wild && below(24) == 0 ? odd(below(2) == 0 ? 16 : -1) : below(texts);
+    }
+
+    private int emptyText() {
+        int t = below(texts);
+        for (int i = 0; i < texts && model.length(t) > 0; i++) {
+            t = (t + 1) % texts;
+        }
+        return t;
     }
 
     private int place(int t) {
@@ -176,7 +225,8 @@ public final class ModelRunsTest {
 
     private int span(int t, int at) {
         int rest = Math.max(0, model.length(t) - Math.max(0, at));
-        return odd(below(3) == 0 ? rest : below(rest + 1));
+        int n = below(3) == 0 ? rest : below(rest + 1);
+        return odd(crowded ? Math.min(n, below(6)) : n);
     }
 
     /** Now and then, in wild runs, something that hardly fits. */
