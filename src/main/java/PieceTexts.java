@@ -21,7 +21,6 @@ public final class PieceTexts {
 
     public PieceTexts() {
         buffer = new byte[MOST_BYTES];
-        filled = 0;
         roots = new Piece[MOST_TEXTS];
         trees = new Trees();
     }
@@ -307,28 +306,12 @@ public final class PieceTexts {
         private int height;
         private int pieces;
         private int characters;
-
-        private Piece() {
-            source = 0;
-            size = 0;
-            tag = 0;
-            left = null;
-            right = null;
-            height = 1;
-            pieces = 1;
-            characters = 0;
-        }
     }
 
     /** What a tree is parted into. */
     private static final class Halves {
         private Piece left;
         private Piece right;
-
-        private Halves() {
-            left = null;
-            right = null;
-        }
     }
 
     /** What can be asked of a row that lies in a tree; null is the empty row. */
@@ -554,10 +537,6 @@ public final class PieceTexts {
     /** Changes trees, and keeps the nodes that no tree has any more for later use. */
     private static final class Trees {
         private Piece spare;
-
-        private Trees() {
-            spare = null;
-        }
 
         private Piece take(int source, int size, int tag) {
             Piece p = spare;

@@ -67,7 +67,8 @@ public final class CopyTest {
         int[][] wrong = {{-1, 1}, {-1, 0}, {0, -1}, {0, 9}, {8, 1}, {9, 0}, {1, MAX}, {MAX, 1}, {MAX, MAX}, {MIN, MAX},
             {0, MIN}, {MAX, MIN}};
         for (int[] w : wrong) {
-            CHECK.refuses(CopyTest::threePieces, "copy of " + w[0] + ", " + w[1], Check.RANGE, o -> o.copy(0, w[0], w[1], 1));
+            CHECK.refuses(CopyTest::threePieces, "copy of " + w[0] + ", " + w[1], Check.RANGE,
+                    o -> o.copy(0, w[0], w[1], 1));
         }
     }
 

@@ -50,7 +50,7 @@ public final class CountTest {
             }
         }
         PieceTexts x = Make.single(1024);
-        for (int i = 0; i < 150; i++) {
+        for (int i = 0; i < 120; i++) {
             x.cut(0, 0, 5 + i % 3, 1);
             CHECK.due("count(3), cut " + i, 1, () -> x.count(3));
             x.paste(0, i % 2 == 0 ? x.length(0) : 1, 1);

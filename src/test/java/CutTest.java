@@ -11,6 +11,7 @@ public final class CutTest {
         noSuchTextOrRange();
         wrongInto();
         tooManyPieces();
+        meldsWhenFull();
         CHECK.end();
     }
 
@@ -77,6 +78,23 @@ public final class CutTest {
         CHECK.refuses(Make::twoTexts, "cut of nothing into characters", Check.ARGUMENT, o -> o.cut(0, 0, 0, 1));
         CHECK.refuses(Make::twoTexts, "cut of no range into characters", Check.RANGE, o -> o.cut(0, 0, 9, 1));
         CHECK.refuses(Make::twoTexts, "cut of no range into itself", Check.RANGE, o -> o.cut(0, 9, 0, 0));
+    }
+
+    /** The cut parts one piece and lets the rests of two others meld: no piece more. */
+    private static void meldsWhenFull() {
+        PieceTexts x = Make.crowded();
+        x.cut(0, 0, 2, 1);
+        x.wipe(1);
+        x.put(5, 2, 0, 2, 7);
+        x.put(5, 4, 2, 1, 0);
+        CHECK.row(x, 5, "0:0+2#0 2:0+2#7 4:2+2#0 6:0+1#0");
+        x.put(0, 0, 0, 1, 3);
+        CHECK.due("count(2)", 1024, () -> x.count(2));
+        CHECK.refusesFull(x, "cut of a part", Check.STATE, () -> x.cut(5, 1, 1, 1));
+        CHECK.refusesFull(x, "cut of a part and a piece", Check.STATE, () -> x.cut(5, 1, 3, 1));
+        CHECK.due("cut of what lies between", 5, () -> x.cut(5, 2, 2, 1));
+        CHECK.row(x, 5, "0:0+4#0 4:0+1#0");
+        CHECK.due("count(2)", 1023, () -> x.count(2));
     }
 
     private static void tooManyPieces() {

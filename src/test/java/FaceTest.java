@@ -14,7 +14,7 @@ public final class FaceTest {
 
     public static void main(String[] args) {
         Class<?> face = PieceTexts.class;
-        CHECK.due("modifiers", Modifier.toString(Modifier.PUBLIC | Modifier.FINAL), Modifier.toString(face.getModifiers()));
+        CHECK.due("modifiers", "public final", Modifier.toString(face.getModifiers()));
         CHECK.due("constructors", "[public PieceTexts()]", constructors(face).toString());
         CHECK.due("methods", documented().toString(), methods(face).toString());
         for (Field f : face.getDeclaredFields()) {

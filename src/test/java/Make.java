@@ -42,6 +42,17 @@ final class Make {
         return x;
     }
 
+    /** The same bytes; text 5 has the pieces xy, w and x with tag 0, text 0 has 1021 of one character. */
+    static PieceTexts crowded() {
+        PieceTexts x = single(1024);
+        x.cut(0, 1021, 3, 1);
+        x.wipe(1);
+        x.put(5, 0, 0, 2, 0);
+        x.put(5, 2, 3, 1, 0);
+        x.put(5, 3, 0, 1, 0);
+        return x;
+    }
+
     /** A buffer of 64 bytes; text 0 has 2048 characters in 32 pieces of all of them. */
     static PieceTexts halfFull() {
         PieceTexts x = new PieceTexts();
@@ -60,7 +71,7 @@ final class Make {
         return x;
     }
 
-    private static void grow(PieceTexts x, int length) {
+    static void grow(PieceTexts x, int length) {
         for (int n = x.length(0); n < length; n = x.length(0)) {
             x.copy(0, 0, n, 1);
             x.paste(0, n, 1);

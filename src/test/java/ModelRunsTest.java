@@ -102,13 +102,16 @@ public final class ModelRunsTest {
             case 2:
                 return putSome(t, at);
             case 3:
-                return same("cut " + t + " " + at + " " + n + " " + u, () -> real.cut(t, at, n, u), () -> model.cut(t, at, n, u));
+                return same("cut " + t + " " + at + " " + n + " " + u,
+                        () -> real.cut(t, at, n, u), () -> model.cut(t, at, n, u));
             case 4: {
                 int v = text();
-                return same("paste " + t + " " + at + " " + v, () -> real.paste(t, at, v), () -> model.paste(t, at, v));
+                return same("paste " + t + " " + at + " " + v,
+                        () -> real.paste(t, at, v), () -> model.paste(t, at, v));
             }
             case 5:
-                return same("copy " + t + " " + at + " " + n + " " + u, () -> real.copy(t, at, n, u), () -> model.copy(t, at, n, u));
+                return same("copy " + t + " " + at + " " + n + " " + u,
+                        () -> real.copy(t, at, n, u), () -> model.copy(t, at, n, u));
             case 6:
                 return tagSome(t, at, n);
             default:
@@ -124,15 +127,18 @@ public final class ModelRunsTest {
         switch (kind) {
             case 0:
             case 1:
-                return same("look " + t + " " + at + " " + what, () -> real.look(t, at, what), () -> model.look(t, at, what));
+                return same("look " + t + " " + at + " " + what,
+                        () -> real.look(t, at, what), () -> model.look(t, at, what));
             case 2:
             case 3: {
                 int k = odd(below(2 + Math.max(0, model.count(2))));
-                return same("piece " + t + " " + k + " " + what, () -> real.piece(t, k, what), () -> model.piece(t, k, what));
+                return same("piece " + t + " " + k + " " + what,
+                        () -> real.piece(t, k, what), () -> model.piece(t, k, what));
             }
             case 4: {
                 int c = odd(97 + below(4));
-                return same("find " + t + " " + at + " " + c, () -> real.find(t, at, c), () -> model.find(t, at, c));
+                return same("find " + t + " " + at + " " + c,
+                        () -> real.find(t, at, c), () -> model.find(t, at, c));
             }
             case 5:
                 return same("differ " + t + " " + u, () -> real.differ(t, u), () -> model.differ(t, u));
@@ -149,7 +155,8 @@ public final class ModelRunsTest {
         int u = (t + 1 + below(texts - 1)) % texts;
         int n = model.length(t);
         int at = below(n + 1);
-        return same("copy " + t + " 0 " + n + " " + u, () -> real.copy(t, 0, n, u), () -> model.copy(t, 0, n, u))
+        return same("copy " + t + " 0 " + n + " " + u,
+                        () -> real.copy(t, 0, n, u), () -> model.copy(t, 0, n, u))
                 && same("paste " + t + " " + at + " " + u, () -> real.paste(t, at, u), () -> model.paste(t, at, u));
     }
 

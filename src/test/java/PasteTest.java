@@ -10,6 +10,7 @@ public final class PasteTest {
         intoItself();
         tooManyPieces();
         atTheLimits();
+        meldsWhenFull();
         CHECK.end();
     }
 
@@ -63,7 +64,8 @@ public final class PasteTest {
         for (int text : new int[] {-1, 16, Integer.MIN_VALUE, Integer.MAX_VALUE}) {
             CHECK.refuses(Make::twoTexts, "paste into text " + text, Check.RANGE, o -> o.paste(text, 0, 1));
             CHECK.refuses(Make::twoTexts, "paste of text " + text, Check.RANGE, o -> o.paste(0, 0, text));
-            CHECK.refuses(Make::twoTexts, "paste of text " + text + " into it", Check.RANGE, o -> o.paste(text, 0, text));
+            CHECK.refuses(Make::twoTexts, "paste of text " + text + " into it", Check.RANGE,
+                    o -> o.paste(text, 0, text));
         }
         for (int at : new int[] {-1, 9, Integer.MIN_VALUE, Integer.MAX_VALUE}) {
             CHECK.refuses(Make::twoTexts, "paste at " + at, Check.RANGE, o -> o.paste(0, at, 1));
@@ -91,6 +93,29 @@ public final class PasteTest {
         CHECK.due("paste into a piece with room for one", 1026, () -> x.paste(0, 2, 1));
         CHECK.due("count(2)", 1024, () -> x.count(2));
         CHECK.due("count(3)", 1, () -> x.count(3));
+    }
+
+    /** A full object whose text 6 is twice the same byte, with this tag. */
+    private static PieceTexts crowded(int from, int tag) {
+        PieceTexts x = Make.crowded();
+        x.cut(0, 0, 2, 1);
+        x.wipe(1);
+        x.put(6, 0, from, 1, tag);
+        x.put(6, 1, from, 1, tag);
+        CHECK.due("count(2)", 1024, () -> x.count(2));
+        return x;
+    }
+
+    /** Each paste parts the piece xy. */
+    private static void meldsWhenFull() {
+        PieceTexts x = crowded(1, 4);
+        CHECK.refusesFull(x, "paste of another tag", Check.STATE, () -> x.paste(5, 1, 6));
+        PieceTexts y = crowded(1, 0);
+        CHECK.due("paste that melds left", 6, () -> y.paste(5, 1, 6));
+        CHECK.row(y, 5, "0:0+2#0 2:1+1#0 3:1+1#0 4:3+1#0 5:0+1#0");
+        PieceTexts z = crowded(0, 0);
+        CHECK.due("paste that melds right", 6, () -> z.paste(5, 1, 6));
+        CHECK.row(z, 5, "0:0+1#0 1:0+1#0 2:0+2#0 4:3+1#0 5:0+1#0");
     }
 
     private static void atTheLimits() {

@@ -12,6 +12,7 @@ public final class PutTest {
         noSuchBytes();
         tooManyCharacters();
         tooManyPieces();
+        meldsWhenFull();
         CHECK.end();
     }
 
@@ -74,7 +75,8 @@ public final class PutTest {
         int[][] wrong = {{0, 0}, {0, -1}, {-1, 1}, {-1, 2}, {0, 9}, {8, 1}, {7, 2}, {9, 0}, {8, 0}, {1, MAX}, {MAX, 1},
             {MAX, MAX}, {MIN, MIN}, {0, MIN}, {MIN, 1}, {MIN, MAX}, {0, MAX}};
         for (int[] w : wrong) {
-            CHECK.refuses(Make::letters, "put of " + w[1] + " from " + w[0], Check.RANGE, o -> o.put(0, 0, w[0], w[1], 0));
+            CHECK.refuses(Make::letters, "put of " + w[1] + " from " + w[0], Check.RANGE,
+                    o -> o.put(0, 0, w[0], w[1], 0));
         }
         CHECK.due("put of the last byte", 9, () -> x.put(0, 8, 7, 1, 0));
         CHECK.refuses(PieceTexts::new, "put of an empty buffer", Check.RANGE, o -> o.put(0, 0, 0, 1, 0));
@@ -105,5 +107,19 @@ public final class PutTest {
         CHECK.due("put into a piece", 1025, () -> x.put(0, 1, 3, 1, 0));
         CHECK.due("count(2)", 1024, () -> x.count(2));
         CHECK.due("count(3)", 1, () -> x.count(3));
+    }
+
+    private static void meldsWhenFull() {
+        PieceTexts x = Make.crowded();
+        CHECK.due("count(2)", 1024, () -> x.count(2));
+        CHECK.refusesFull(x, "put that melds with none", Check.STATE, () -> x.put(5, 2, 1, 1, 0));
+        CHECK.refusesFull(x, "put that would meld but for its tag", Check.STATE, () -> x.put(5, 2, 2, 1, 1));
+        CHECK.due("put that melds right", 6, () -> x.put(5, 2, 1, 2, 0));
+        CHECK.row(x, 5, "0:0+2#0 2:1+3#0 5:0+1#0");
+        CHECK.due("put that melds left", 7, () -> x.put(5, 6, 1, 1, 0));
+        PieceTexts y = Make.crowded();
+        CHECK.due("put that melds on both sides", 5, () -> y.put(5, 2, 2, 1, 0));
+        CHECK.row(y, 5, "0:0+4#0 4:0+1#0");
+        CHECK.due("count(2)", 1023, () -> y.count(2));
     }
 }

@@ -11,6 +11,7 @@ public final class TagTest {
         emptyRange();
         noSuchTextOrRange();
         tooManyPieces();
+        meldsWhenFull();
         manyMeld();
         CHECK.end();
     }
@@ -101,6 +102,23 @@ public final class TagTest {
         CHECK.due("look(0, 1, 2)", 3, () -> x.look(0, 1, 2));
         CHECK.due("look(0, 2, 2)", 9, () -> x.look(0, 2, 2));
         CHECK.due("count(2)", 1024, () -> x.count(2));
+    }
+
+    /** Tags part a piece at one end of the range, and let others meld within it or at its other end. */
+    private static void meldsWhenFull() {
+        PieceTexts x = Make.crowded();
+        x.cut(0, 0, 1, 1);
+        x.wipe(1);
+        x.put(5, 4, 1, 1, 0);
+        x.tag(5, 3, 1, -1, 6);
+        CHECK.due("count(2)", 1024, () -> x.count(2));
+        CHECK.row(x, 5, "0:0+2#0 2:3+1#0 3:0+1#6 4:1+1#0");
+        CHECK.refusesFull(x, "tag that parts only", Check.STATE, () -> x.tag(5, 1, 2, -1, 9));
+        CHECK.refusesFull(x, "tag that keeps the two apart", Check.STATE, () -> x.tag(5, 1, 4, 1, 1));
+        CHECK.due("tag that lets the two meld", 4, () -> x.tag(5, 1, 4, -1, 9));
+        CHECK.row(x, 5, "0:0+1#0 1:1+1#9 2:3+1#9 3:0+2#9");
+        CHECK.due("tag that melds left", 3, () -> x.tag(5, 1, 1, -1, 0));
+        CHECK.row(x, 5, "0:0+2#0 2:3+1#9 3:0+2#9");
     }
 
     /** Places of a long piece get tags of their own and lose them in one call. */

@@ -1,0 +1,116 @@
+import java.lang.reflect.Field;
+
+/**
+ * The rows lie in balanced trees: what count(3) tells of them is measured on
+ * the trees themselves, as no call shows them.
+ */
+public final class TreeTest {
+    private static final Check CHECK = new Check();
+
+    public static void main(String[] args) throws ReflectiveOperationException {
+        oneEnd();
+        manyParts();
+        melding();
+        bound();
+        CHECK.end();
+    }
+
+    private static void oneEnd() throws ReflectiveOperationException {
+        PieceTexts behind = Make.written("ab");
+        PieceTexts before = Make.written("ab");
+        PieceTexts inside = Make.written("ab");
+        for (int i = 0; i < 400; i++) {
+            behind.put(0, i, 0, 1, 0);
+            before.put(0, 0, 0, 1, 0);
+            inside.put(0, i / 3, 0, 1, 0);
+            balanced(behind);
+            balanced(before);
+            balanced(inside);
+        }
+    }
+
+    private static void manyParts() throws ReflectiveOperationException {
+        PieceTexts x = Make.single(1024);
+        for (int i = 0; i < 150; i++) {
+            int n = x.length(0);
+            x.cut(0, i * 37 % (n / 2), i * 101 % (n / 2), 1);
+            balanced(x);
+            x.paste(0, i * 53 % (x.length(0) + 1), 1);
+            balanced(x);
+        }
+        CHECK.due("length(0)", 1024, () -> x.length(0));
+    }
+
+    private static void melding() throws ReflectiveOperationException {
+        PieceTexts x = Make.halfFull();
+        for (int i = 0; i < 200; i++) {
+            x.tag(0, i * 997 % 2000, i % 9 + 1, 3, i);
+            balanced(x);
+        }
+        for (int i = 0; i < 60; i++) {
+            x.tag(0, i * 613 % 1700, 300, i % 2 == 0 ? 1 : -1, i % 3);
+            x.copy(0, i * 31, 100 + i, 1);
+            balanced(x);
+            x.wipe(1);
+        }
+    }
+
+    /** Heights at and above 2 * log2(n + 1) + 2, told to trees of n pieces. */
+    private static void bound() throws ReflectiveOperationException {
+        int[][] mostOf = {{1, 4}, {2, 5}, {4, 6}, {8, 8}, {16, 10}, {512, 20}, {1024, 22}};
+        for (int[] m : mostOf) {
+            PieceTexts x = Make.single(m[0]);
+            Object root = ((Object[]) value(x, "roots"))[0];
+            for (int height = m[1] - 1; height < m[1] + 60; height++) {
+                field(root, "height").setInt(root, height);
+                String what = "count(3) of " + m[0] + " pieces, " + height + " high";
+                CHECK.due(what, height <= m[1] ? 1 : 0, () -> x.count(3));
+            }
+        }
+    }
+
+    private static void balanced(PieceTexts x) throws ReflectiveOperationException {
+        for (Object root : (Object[]) value(x, "roots")) {
+            int deep = measure(root);
+            int n = root == null ? 0 : number(root, "pieces");
+            boolean low = deep <= 2 * Math.log(n + 1) / Math.log(2) + 2;
+            CHECK.due("a tree of " + n + " pieces, " + deep + " high, is low", "true", Boolean.toString(low));
+        }
+    }
+
+    /** How high a tree is; every node's sums are compared with what lies below it on the way. */
+    private static int measure(Object p) throws ReflectiveOperationException {
+        if (p == null) {
+            return 0;
+        }
+        Object left = value(p, "left");
+        Object right = value(p, "right");
+        int one = measure(left);
+        int two = measure(right);
+        int high = 1 + Math.max(one, two);
+        CHECK.due("the tilt of a node is small", "true", Boolean.toString(Math.abs(one - two) <= 1));
+        CHECK.due("height", high, () -> number(p, "height"));
+        CHECK.due("pieces", 1 + number(left, "pieces") + number(right, "pieces"), () -> number(p, "pieces"));
+        CHECK.due("characters", number(p, "size") + number(left, "characters") + number(right, "characters"),
+                () -> number(p, "characters"));
+        return high;
+    }
+
+    private static int number(Object p, String name) {
+        try {
+            return p == null ? 0 : field(p, name).getInt(p);
+        } catch (ReflectiveOperationException e) {
+            throw new IllegalStateException(e);
+        }
+    }
+
+    private static Object value(Object p, String name) throws ReflectiveOperationException {
+        return field(p, name).get(p);
+    }
+
+    private static Field field(Object p, String name) throws ReflectiveOperationException {
+        Field f = p.getClass().getDeclaredField(name);
+        f.setAccessible(true);
+        return f;
+    }
+}
