@@ -31,7 +31,7 @@ public final class TreeTest {
 
     private static void manyParts() throws ReflectiveOperationException {
         PieceTexts x = Make.single(1024);
-        for (int i = 0; i < 150; i++) {
+        for (int i = 0; i < 110; i++) {
             int n = x.length(0);
             x.cut(0, i * 37 % (n / 2), i * 101 % (n / 2), 1);
             balanced(x);
