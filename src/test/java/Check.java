@@ -46,6 +46,32 @@ final class Check {
         due("the state after " + what, before, State.of(x));
     }
 
+    /** The same for big objects: each of their pieces is as it was. */
+    void refusesWhole(Maker maker, String what, String want, Request request) {
+        PieceTexts x = maker.make();
+        due(what, want, answer(() -> request.answer(x)));
+        alike("the state after " + what, State.whole(maker), State.whole(() -> asked(maker, request)));
+    }
+
+    private static PieceTexts asked(Maker maker, Request request) {
+        PieceTexts x = maker.make();
+        answer(() -> request.answer(x));
+        return x;
+    }
+
+    /** Tells of two long texts only what is behind the place at which they part. */
+    private void alike(String what, String want, String got) {
+        int shared = 0;
+        while (shared < want.length() && shared < got.length() && want.charAt(shared) == got.charAt(shared)) {
+            shared++;
+        }
+        due(what, excerpt(want, shared), excerpt(got, shared));
+    }
+
+    private static String excerpt(String s, int from) {
+        return s.substring(from, Math.min(s.length(), from + 80));
+    }
+
     /** The call throws this, and as far as a few calls tell, the full object is as it was. */
     void refusesFull(PieceTexts x, String what, String want, Call call) {
         String before = State.inShort(x);

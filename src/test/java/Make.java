@@ -71,6 +71,60 @@ final class Make {
         return x;
     }
 
+    /** Text 0 has all 4096 characters, in 64 pieces of 64. */
+    static PieceTexts oneFull() {
+        PieceTexts x = full();
+        x.paste(0, 2048, 1);
+        return x;
+    }
+
+    /** Text 0 has so many characters, of the same 64 bytes, and there are no others. */
+    static PieceTexts characters(int n) {
+        PieceTexts x = oneFull();
+        x.cut(0, n, 4096 - n, 1);
+        x.wipe(1);
+        return x;
+    }
+
+    /** Every text has 256 characters in 4 pieces: 4096 in all. */
+    static PieceTexts sixteenFull() {
+        PieceTexts x = characters(256);
+        for (int t = 1; t < 16; t++) {
+            x.copy(0, 0, 256, t);
+        }
+        return x;
+    }
+
+    /** A buffer of xyzw; text 0 has so many pieces of one character, and there are no others. */
+    static PieceTexts pieces(int n) {
+        PieceTexts x = single(1024);
+        x.cut(0, n, 1024 - n, 1);
+        x.wipe(1);
+        return x;
+    }
+
+    /** Every text has 64 pieces of one character: 1024 in all. */
+    static PieceTexts sixteenCrowded() {
+        PieceTexts x = pieces(64);
+        for (int t = 1; t < 16; t++) {
+            x.copy(0, 0, 64, t);
+        }
+        return x;
+    }
+
+    /** So many bytes, number i being i % 255 + 1: up to 256 calls. */
+    static PieceTexts buffer(int n) {
+        PieceTexts x = new PieceTexts();
+        for (int first = 0; first < n; first += 8) {
+            long s = 0;
+            for (int i = Math.min(n, first + 8) - 1; i >= first; i--) {
+                s = s << 8 | i % 255 + 1;
+            }
+            x.write(s);
+        }
+        return x;
+    }
+
     static void grow(PieceTexts x, int length) {
         for (int n = x.length(0); n < length; n = x.length(0)) {
             x.copy(0, 0, n, 1);

