@@ -16,7 +16,26 @@ final class Check {
         PieceTexts make();
     }
 
+    /** A call that never ends is wrong too: no test takes more than some seconds. */
+    private static final int MOST_SECONDS = 300;
+
     private int wrong;
+
+    static {
+        Thread watch = new Thread(Check::endLate);
+        watch.setDaemon(true);
+        watch.start();
+    }
+
+    private static void endLate() {
+        try {
+            Thread.sleep(MOST_SECONDS * 1000L);
+        } catch (InterruptedException e) {
+            return;
+        }
+        System.out.println("a call doesn't end");
+        Runtime.getRuntime().halt(1);
+    }
 
     /** The answer of a call, or the name of what it throws, exactly that class. */
     static String answer(Call call) {

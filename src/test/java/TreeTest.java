@@ -1,4 +1,7 @@
 import java.lang.reflect.Field;
+import java.util.Collections;
+import java.util.IdentityHashMap;
+import java.util.Set;
 
 /**
  * "The rows lie in balanced trees": what count(3) tells of them is measured on
@@ -84,25 +87,45 @@ public final class TreeTest {
         }
     }
 
-    /** A change parts a row at two places at most, so that there are never more than 1026 nodes. */
+    /** A change parts a row at two places at most: 1026 nodes are enough, if none that was made is lost. */
     private static void nodesAreUsedAgain() throws ReflectiveOperationException {
         PieceTexts x = Make.single(512);
-        for (int i = 0; i < 60; i++) {
-            x.copy(0, 0, 512, 1);
-            x.tag(1, 0, 512, -1, i);
+        Set<Object> seen = nodes(x);
+        for (int i = 0; i < 50; i++) {
+            x.copy(0, 0, 500, 1);
+            seen.addAll(nodes(x));
+            x.put(1, 1, 1, 3, 0);
+            x.tag(1, 2, 2, -1, i);
+            x.tag(1, 0, 503, -1, 0);
+            x.cut(1, i, 400, 2);
+            seen.addAll(nodes(x));
+            x.paste(1, i, 2);
             x.wipe(1);
-            x.copy(0, 0, 300 + i, 2);
-            x.paste(0, i, 2);
-            x.cut(0, i, 300 + i, 3);
-            x.wipe(3);
+            seen.addAll(nodes(x));
         }
-        int spare = 0;
+        int left = nodes(x).size();
+        CHECK.due("nodes that are left", seen.size(), () -> left);
+        CHECK.due(left + " nodes: few enough", "true", Boolean.toString(left <= 1026));
+    }
+
+    /** Those of all trees, and those that are kept for later use. */
+    private static Set<Object> nodes(PieceTexts x) throws ReflectiveOperationException {
+        Set<Object> found = Collections.newSetFromMap(new IdentityHashMap<>());
+        for (Object root : (Object[]) value(x, "roots")) {
+            collect(root, found);
+        }
         for (Object p = value(value(x, "trees"), "spare"); p != null; p = value(p, "right")) {
-            spare++;
+            found.add(p);
         }
-        int nodes = spare + x.count(2);
-        CHECK.due(nodes + " nodes: few enough", "true", Boolean.toString(nodes <= 1026));
-        CHECK.due(nodes + " nodes: none is lost", "true", Boolean.toString(nodes >= 1024));
+        return found;
+    }
+
+    private static void collect(Object p, Set<Object> found) throws ReflectiveOperationException {
+        if (p != null) {
+            found.add(p);
+            collect(value(p, "left"), found);
+            collect(value(p, "right"), found);
+        }
     }
 
     private static void balanced(PieceTexts x) throws ReflectiveOperationException {
