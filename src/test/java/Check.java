@@ -17,7 +17,7 @@ final class Check {
     }
 
     /** A call that never ends is wrong too: no test takes more than some seconds. */
-    private static final int MOST_SECONDS = 300;
+    private static final int MOST_SECONDS = 100;
 
     private int wrong;
 
