@@ -9,6 +9,8 @@ public final class CallsTest {
         onlyWrites();
         onlyPuts();
         onlyRefused();
+        onlyOneQuestion();
+        onlyOneChange();
         CHECK.end();
     }
 
@@ -78,5 +80,31 @@ public final class CallsTest {
             CHECK.due("cut " + i, Check.RANGE, Check.answer(() -> x.cut(0, n, 9, 1)));
         }
         CHECK.due("cut of all as call 512", 0, () -> x.cut(0, 0, 8, 1));
+    }
+
+    /** With the two calls that make it, 512 calls on an object, all with the same answer. */
+    private static void always(String what, int want, Check.Request request) {
+        PieceTexts x = Make.letters();
+        for (int i = 3; i <= 512; i++) {
+            CHECK.due(what + " as call " + i, want, () -> request.answer(x));
+        }
+    }
+
+    private static void onlyOneQuestion() {
+        always("length", 8, x -> x.length(0));
+        always("look", 'd', x -> x.look(0, 3, 0));
+        always("piece", 8, x -> x.piece(0, 0, 2));
+        always("find", 6, x -> x.find(0, 2, 'g'));
+        always("differ", 0, x -> x.differ(0, 1));
+        always("count", 1, x -> x.count(3));
+    }
+
+    /** Changes that leave all as it is. */
+    private static void onlyOneChange() {
+        always("cut", 8, x -> x.cut(0, 4, 0, 1));
+        always("paste", 8, x -> x.paste(0, 4, 1));
+        always("copy", 0, x -> x.copy(0, 4, 0, 1));
+        always("tag", 1, x -> x.tag(0, 2, 4, 3, 0));
+        always("wipe", 0, x -> x.wipe(1));
     }
 }

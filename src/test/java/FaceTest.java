@@ -2,6 +2,8 @@ import java.lang.reflect.Constructor;
 import java.lang.reflect.Field;
 import java.lang.reflect.Method;
 import java.lang.reflect.Modifier;
+import java.util.ArrayList;
+import java.util.List;
 import java.util.Set;
 import java.util.TreeSet;
 
@@ -30,19 +32,19 @@ public final class FaceTest {
 
     private static Set<String> documented() {
         return new TreeSet<>(Set.of(
-                "write/1" + ARGUMENT + STATE,
-                "put/5" + RANGE + STATE,
-                "cut/4" + RANGE + ARGUMENT + STATE,
-                "paste/3" + RANGE + ARGUMENT + STATE,
-                "copy/4" + RANGE + ARGUMENT + STATE,
-                "tag/5" + RANGE + STATE,
-                "wipe/1" + RANGE,
-                "length/1",
-                "look/3" + RANGE + ARGUMENT,
-                "piece/3" + RANGE + ARGUMENT,
-                "find/3" + RANGE,
-                "differ/2" + RANGE,
-                "count/1"));
+                "write(long)" + ARGUMENT + STATE,
+                "put(int, int, int, int, int)" + RANGE + STATE,
+                "cut(int, int, int, int)" + RANGE + ARGUMENT + STATE,
+                "paste(int, int, int)" + RANGE + ARGUMENT + STATE,
+                "copy(int, int, int, int)" + RANGE + ARGUMENT + STATE,
+                "tag(int, int, int, int, int)" + RANGE + STATE,
+                "wipe(int)" + RANGE,
+                "length(int)",
+                "look(int, int, int)" + RANGE + ARGUMENT,
+                "piece(int, int, int)" + RANGE + ARGUMENT,
+                "find(int, int, int)" + RANGE,
+                "differ(int, int)" + RANGE,
+                "count(int)"));
     }
 
     private static Set<String> constructors(Class<?> face) {
@@ -59,15 +61,23 @@ public final class FaceTest {
             if (Modifier.isPrivate(m.getModifiers())) {
                 continue;
             }
-            CHECK.due(m.getName() + " is public", "true", "" + Modifier.isPublic(m.getModifiers()));
+            CHECK.due("modifiers of " + m.getName(), "public", Modifier.toString(m.getModifiers()));
             CHECK.due("type of " + m.getName(), "int", m.getReturnType().getName());
-            StringBuilder s = new StringBuilder(m.getName()).append('/').append(m.getParameterCount());
+            StringBuilder s = new StringBuilder(m.getName()).append('(').append(parameters(m)).append(')');
             for (Class<?> e : m.getExceptionTypes()) {
                 s.append(' ').append(e.getSimpleName());
             }
             all.add(s.toString());
         }
         return all;
+    }
+
+    private static String parameters(Method m) {
+        List<String> types = new ArrayList<>();
+        for (Class<?> type : m.getParameterTypes()) {
+            types.add(type.getName());
+        }
+        return String.join(", ", types);
     }
 
     private static void namesAreTheirOwn(Class<?> inside) {

@@ -69,6 +69,8 @@ public final class PasteTest {
         }
         for (int at : new int[] {-1, 9, Integer.MIN_VALUE, Integer.MAX_VALUE}) {
             CHECK.refuses(Make::twoTexts, "paste at " + at, Check.RANGE, o -> o.paste(0, at, 1));
+            CHECK.refuses(Make::twoTexts, "paste of nothing at " + at, Check.RANGE, o -> o.paste(0, at, 2));
+            CHECK.refuses(Make::twoTexts, "paste into nothing at " + at, Check.RANGE, o -> o.paste(2, at, 0));
         }
     }
 

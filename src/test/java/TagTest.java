@@ -81,7 +81,10 @@ public final class TagTest {
         int[][] wrong = {{-1, 1}, {-1, 0}, {0, -1}, {0, 9}, {8, 1}, {9, 0}, {1, MAX}, {MAX, 1}, {MAX, MAX}, {MIN, MAX},
             {0, MIN}, {MAX, MIN}};
         for (int[] w : wrong) {
-            CHECK.refuses(Make::letters, "tag of " + w[0] + ", " + w[1], Check.RANGE, o -> o.tag(0, w[0], w[1], -1, 1));
+            String range = w[0] + ", " + w[1];
+            CHECK.refuses(Make::letters, "tag of " + range, Check.RANGE, o -> o.tag(0, w[0], w[1], -1, 1));
+            CHECK.refuses(Make::letters, "tag to what it is of " + range, Check.RANGE, o -> o.tag(0, w[0], w[1], 1, 0));
+            CHECK.refuses(Make::letters, "tag of no bits of " + range, Check.RANGE, o -> o.tag(0, w[0], w[1], 0, 0));
         }
     }
 

@@ -13,7 +13,7 @@ public final class TreeTest {
 
     public static void main(String[] args) throws ReflectiveOperationException {
         if (!hasTrees()) {
-            System.out.println("PieceTexts has no field roots with nodes: there is nothing to measure");
+            System.out.println("PieceTexts has no trees with the fields that are measured here");
             return;
         }
         oneEnd();
@@ -26,11 +26,21 @@ public final class TreeTest {
 
     private static boolean hasTrees() throws ReflectiveOperationException {
         try {
-            Object[] roots = (Object[]) value(Make.letters(), "roots");
-            return field(roots[0], "height") != null;
+            PieceTexts x = Make.letters();
+            field(value(x, "trees"), "spare");
+            return value(x, "roots") instanceof Object[] roots && roots.length == 16 && isNode(roots[0]);
         } catch (NoSuchFieldException e) {
             return false;
         }
+    }
+
+    private static boolean isNode(Object p) throws ReflectiveOperationException {
+        for (String name : new String[] {"height", "pieces", "characters", "size"}) {
+            if (field(p, name).getType() != int.class) {
+                return false;
+            }
+        }
+        return field(p, "left").getType() == p.getClass() && field(p, "right").getType() == p.getClass();
     }
 
     private static void oneEnd() throws ReflectiveOperationException {

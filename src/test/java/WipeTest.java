@@ -6,6 +6,7 @@ public final class WipeTest {
         wipes();
         noSuchText();
         roomComesBack();
+        bytesStay();
         CHECK.end();
     }
 
@@ -42,5 +43,19 @@ public final class WipeTest {
         PieceTexts y = Make.full();
         CHECK.due("wipe(0)", 2048, () -> y.wipe(0));
         CHECK.due("copy", 32, () -> y.copy(1, 0, 2048, 0));
+    }
+
+    /** The buffer only grows, even if no text has any of it. */
+    private static void bytesStay() {
+        PieceTexts x = Make.buffer(2048);
+        x.put(0, 0, 0, 2048, 3);
+        CHECK.due("wipe(0)", 2048, () -> x.wipe(0));
+        CHECK.due("count(0)", 2048, () -> x.count(0));
+        CHECK.due("count(1)", 0, () -> x.count(1));
+        CHECK.refusesFull(x, "write behind 2048", Check.STATE, () -> x.write(1L));
+        CHECK.due("put of what was wiped", 2048, () -> x.put(0, 0, 0, 2048, 0));
+        for (int at : new int[] {0, 1, 254, 255, 1024, 2047}) {
+            CHECK.due("look(0, " + at + ", 0)", at % 255 + 1, () -> x.look(0, at, 0));
+        }
     }
 }
